@@ -1,0 +1,289 @@
+/** Promises 1 to 12: the net. */
+public final class NetTest {
+    private static final int BAD = PalletNets.BAD, NO = PalletNets.NO, FULL = PalletNets.FULL;
+    private static final Checks C = new Checks("NetTest");
+
+    public static void main(String[] args) {
+        newObject();
+        place();
+        step();
+        arc();
+        start();
+        cost();
+        line();
+        draw();
+        anew();
+        of();
+        arcOf();
+        stepOf();
+        C.end();
+    }
+
+    private static void newObject() {
+        PalletNets x = new PalletNets();
+        for (int what = 0; what <= 8; what++) {
+            C.due("1: told(" + what + ")", x.told(what), 0);
+        }
+        C.due("1: sums()", x.sums(), 0);
+        C.due("1: stucks()", x.stucks(), 0);
+        C.due("1: all(0)", x.all(0), 1);
+        C.due("1: all(1)", x.all(1), 1);
+        C.due("1: all(2)", x.all(2), 1);
+        C.due("1: all(3)", x.all(3), 0);
+        C.due("1: all(4)", x.all(4), 0);
+        C.due("1: all(5)", x.all(5), 0);
+        C.due("1: found(0, 0)", x.found(0, 0), 0);
+        C.due("1: home(0)", x.home(0), 0);
+        C.due("1: reads()", x.reads(), -10);
+        C.due("1: clear()", x.clear(), 0);
+        C.refuses(x, BAD, "1: of(0, 0)", () -> x.of(0, 0));
+        C.refuses(x, BAD, "1: can(0)", () -> x.can(0));
+        C.refuses(x, BAD, "1: guardOf(0, 0)", () -> x.guardOf(0, 0));
+        C.refuses(x, NO, "1: back()", x::back);
+    }
+
+    private static void place() {
+        PalletNets x = new PalletNets();
+        C.refuses(x, BAD, "2: place(-1)", () -> x.place(-1));
+        C.refuses(x, BAD, "2: place(16)", () -> x.place(16));
+        C.refuses(x, BAD, "2: place(MIN)", () -> x.place(Integer.MIN_VALUE));
+        for (int p = 0; p < 10; p++) {
+            int v = p == 9 ? 15 : p;
+            C.due("2: place " + p, x.place(v), p);
+            C.due("2: its start", x.of(p, 0), v);
+            C.due("2: its tokens", x.of(p, 1), v);
+            C.due("2: told(8)", x.told(8), Math.min(5, p + 1));
+        }
+        C.refuses(x, FULL, "2: place(0), an eleventh", () -> x.place(0));
+        C.refuses(x, BAD, "2: place(16), an eleventh", () -> x.place(16));
+        PalletNets y = Checks.worn();
+        C.due("2: place(4)", y.place(4), 3);
+        C.renewed(y, "2: place(4)", 1);
+    }
+
+    private static void step() {
+        PalletNets x = Checks.net("p1;p2;");
+        C.refuses(x, BAD, "3: step(-1)", () -> x.step(-1));
+        C.refuses(x, BAD, "3: step(10)", () -> x.step(10));
+        for (int t = 0; t < 8; t++) {
+            int c = t == 7 ? 9 : t;
+            C.due("3: step " + t, x.step(c), t);
+            C.due("3: its cost", x.stepOf(t, 0), c);
+            C.due("3: it takes nothing", x.stepOf(t, 1), 0);
+            C.due("3: it gives nothing", x.stepOf(t, 2), 0);
+        }
+        C.refuses(x, FULL, "3: step(0), a ninth", () -> x.step(0));
+        C.refuses(x, BAD, "3: step(10), a ninth", () -> x.step(10));
+        PalletNets y = Checks.worn();
+        C.due("3: step(0)", y.step(0), 1);
+        C.renewed(y, "3: step(0)", 1);
+        PalletNets z = Checks.net("p1;t5 0>0;");
+        z.anew();
+        z.place(1);
+        C.due("3: step(1) after anew()", z.step(1), 0);
+        C.due("3: it takes nothing of the old step", z.stepOf(0, 1), 0);
+        C.due("3: it gives nothing of the old step", z.stepOf(0, 2), 0);
+    }
+
+    private static void arc() {
+        PalletNets x = Checks.net("p1;p2;t1>;t1>;");
+        C.due("4: arc(1, 0, 0, 2)", x.arc(1, 0, 0, 2), 0);
+        C.due("4: arc(1, 0, 1, 1)", x.arc(1, 0, 1, 1), 0);
+        C.due("4: arc(1, 1, 1, 2)", x.arc(1, 1, 1, 2), 0);
+        C.due("4: takes", x.arcOf(1, 0, 0), 2);
+        C.due("4: gives", x.arcOf(1, 0, 1), 1);
+        C.due("4: gives to the other", x.arcOf(1, 1, 1), 2);
+        C.due("4: takes from the other", x.arcOf(1, 1, 0), 0);
+        C.due("4: the other step", x.stepOf(0, 1) + x.stepOf(0, 2), 0);
+        C.due("4: arc(1, 0, 0, 1)", x.arc(1, 0, 0, 1), 2);
+        C.due("4: arc(1, 0, 0, 0)", x.arc(1, 0, 0, 0), 1);
+        C.due("4: takes", x.arcOf(1, 0, 0), 0);
+        C.refuses(x, BAD, "4: arc(2, 0, 0, 1)", () -> x.arc(2, 0, 0, 1));
+        C.refuses(x, BAD, "4: arc(-1, 0, 0, 1)", () -> x.arc(-1, 0, 0, 1));
+        C.refuses(x, BAD, "4: arc(0, 2, 0, 1)", () -> x.arc(0, 2, 0, 1));
+        C.refuses(x, BAD, "4: arc(0, -1, 0, 1)", () -> x.arc(0, -1, 0, 1));
+        C.refuses(x, BAD, "4: arc(0, 0, 2, 1)", () -> x.arc(0, 0, 2, 1));
+        C.refuses(x, BAD, "4: arc(0, 0, -1, 1)", () -> x.arc(0, 0, -1, 1));
+        C.refuses(x, BAD, "4: arc(0, 0, 0, 3)", () -> x.arc(0, 0, 0, 3));
+        C.refuses(x, BAD, "4: arc(0, 0, 0, -1)", () -> x.arc(0, 0, 0, -1));
+        PalletNets y = Checks.worn();
+        C.due("4: arc(0, 0, 0, 1), the same", y.arc(0, 0, 0, 1), 1);
+        C.renewed(y, "4: arc(0, 0, 0, 1)", 1);
+    }
+
+    private static void start() {
+        PalletNets x = Checks.net("p1;p2;");
+        C.due("5: start(1, 15)", x.start(1, 15), 2);
+        C.due("5: start(1, 0)", x.start(1, 0), 15);
+        C.due("5: start(1, 7)", x.start(1, 7), 0);
+        C.due("5: of(1, 0)", x.of(1, 0), 7);
+        C.due("5: of(0, 0)", x.of(0, 0), 1);
+        C.refuses(x, BAD, "5: start(2, 1)", () -> x.start(2, 1));
+        C.refuses(x, BAD, "5: start(-1, 1)", () -> x.start(-1, 1));
+        C.refuses(x, BAD, "5: start(0, 16)", () -> x.start(0, 16));
+        C.refuses(x, BAD, "5: start(0, -1)", () -> x.start(0, -1));
+        PalletNets y = Checks.worn();
+        C.due("5: start(1, 2), the same", y.start(1, 2), 2);
+        C.renewed(y, "5: start(1, 2)", 1);
+    }
+
+    private static void cost() {
+        PalletNets x = Checks.net("t1>;t2>;");
+        C.due("6: cost(1, 9)", x.cost(1, 9), 2);
+        C.due("6: cost(1, 0)", x.cost(1, 0), 9);
+        C.due("6: stepOf(1, 0)", x.stepOf(1, 0), 0);
+        C.due("6: stepOf(0, 0)", x.stepOf(0, 0), 1);
+        C.refuses(x, BAD, "6: cost(2, 1)", () -> x.cost(2, 1));
+        C.refuses(x, BAD, "6: cost(-1, 1)", () -> x.cost(-1, 1));
+        C.refuses(x, BAD, "6: cost(0, 10)", () -> x.cost(0, 10));
+        C.refuses(x, BAD, "6: cost(0, -1)", () -> x.cost(0, -1));
+        PalletNets y = Checks.worn();
+        C.due("6: cost(0, 1), the same", y.cost(0, 1), 1);
+        C.changedOnly(y, "6: cost(0, 1)");
+    }
+
+    private static void line() {
+        PalletNets x = Checks.net("p1;p2;");
+        C.due("7: line(9, 1, 0)", x.line(9, 1, 0), 2);
+        C.due("7: places", x.told(4), 5);
+        C.due("7: steps", x.told(5), 3);
+        int[] starts = {1, 2, 9, 0, 0};
+        for (int p = 0; p < 5; p++) {
+            C.due("7: start of " + p, x.of(p, 0), starts[p]);
+        }
+        int[][] takes = {{0, 1, 1, 0, 0}, {1, 0, 0, 1, 0}, {0, 0, 0, 0, 1}};
+        int[][] gives = {{0, 0, 0, 1, 0}, {0, 1, 0, 0, 1}, {1, 0, 1, 0, 0}};
+        for (int t = 0; t < 3; t++) {
+            C.due("7: cost of " + t, x.stepOf(t, 0), 1);
+            for (int p = 0; p < 5; p++) {
+                C.due("7: arcOf(" + t + ", " + p + ", 0)", x.arcOf(t, p, 0), takes[t][p]);
+                C.due("7: arcOf(" + t + ", " + p + ", 1)", x.arcOf(t, p, 1), gives[t][p]);
+            }
+        }
+        C.due("7: line(1, 0, 0)", x.line(1, 0, 0), 5);
+        C.due("7: one machine twice, takes", x.arcOf(4, 0, 0), 1);
+        C.due("7: one machine twice, gives", x.arcOf(4, 0, 1), 1);
+        C.refuses(x, FULL, "7: line(1, 0, 0), steps are full", () -> x.line(1, 0, 0));
+        C.refuses(x, BAD, "7: line(0, 0, 0)", () -> x.line(0, 0, 0));
+        C.refuses(x, BAD, "7: line(10, 0, 0)", () -> x.line(10, 0, 0));
+        C.refuses(x, BAD, "7: line(1, 8, 0)", () -> x.line(1, 8, 0));
+        C.refuses(x, BAD, "7: line(1, 0, 8)", () -> x.line(1, 0, 8));
+        C.refuses(x, BAD, "7: line(1, -1, 0)", () -> x.line(1, -1, 0));
+        C.refuses(x, BAD, "7: line(1, 0, -1)", () -> x.line(1, 0, -1));
+        PalletNets seven = Checks.net("p1;p1;p1;p1;p1;p1;p1;");
+        C.due("7: line(1, 0, 6) up to 10 places", seven.line(1, 0, 6), 7);
+        PalletNets eight = Checks.net("p1;p1;p1;p1;p1;p1;p1;p1;");
+        C.refuses(eight, FULL, "7: line(1, 0, 7) up to 11 places", () -> eight.line(1, 0, 7));
+        PalletNets five = Checks.net("p1;t0>;t0>;t0>;t0>;t0>;");
+        C.due("7: line(1, 0, 0) up to 8 steps", five.line(1, 0, 0), 1);
+        PalletNets six = Checks.net("p1;t0>;t0>;t0>;t0>;t0>;t0>;");
+        C.refuses(six, FULL, "7: line(1, 0, 0) up to 9 steps", () -> six.line(1, 0, 0));
+        PalletNets y = Checks.worn();
+        C.due("7: line(1, 0, 1)", y.line(1, 0, 1), 3);
+        C.renewed(y, "7: line(1, 0, 1)", 1);
+    }
+
+    private static void draw() {
+        PalletNets x = Checks.net("p15;p15;p15;t9 0>1;");
+        // s: 12345, 1406932606, 654583775, 1449466924, 229283573; divided by 65536: 0, 21468, 9988, 22117, 3498
+        C.due("8: draw(0, 2, 1)", x.draw(0, 2, 1), 1);
+        C.due("8: places", x.told(4), 2);
+        C.due("8: steps", x.told(5), 1);
+        C.due("8: start of 0: 0 below 3", x.of(0, 0), 0);
+        C.due("8: start of 1: 21468 below 3", x.of(1, 0), 0);
+        C.due("8: cost: 9988 below 10", x.stepOf(0, 0), 8);
+        C.due("8: place 0: 22117 below 9 is 4", x.arcOf(0, 0, 0), 1);
+        C.due("8: place 0: gives 1", x.arcOf(0, 0, 1), 1);
+        C.due("8: place 1: 3498 below 9 is 6", x.arcOf(0, 1, 0) + x.arcOf(0, 1, 1), 0);
+        C.due("8: draw(999999, 10, 8)", x.draw(999999, 10, 8), x.all(0));
+        C.due("8: places", x.told(4), 10);
+        C.due("8: steps", x.told(5), 8);
+        C.refuses(x, BAD, "8: draw(-1, 1, 1)", () -> x.draw(-1, 1, 1));
+        C.refuses(x, BAD, "8: draw(1000000, 1, 1)", () -> x.draw(1000000, 1, 1));
+        C.refuses(x, BAD, "8: draw(0, 0, 1)", () -> x.draw(0, 0, 1));
+        C.refuses(x, BAD, "8: draw(0, 11, 1)", () -> x.draw(0, 11, 1));
+        C.refuses(x, BAD, "8: draw(0, 1, 0)", () -> x.draw(0, 1, 0));
+        C.refuses(x, BAD, "8: draw(0, 1, 9)", () -> x.draw(0, 1, 9));
+        PalletNets y = Checks.worn();
+        C.due("8: draw(5, 6, 4), keeper on", y.draw(5, 6, 4), 112);
+        C.renewed(y, "8: draw(5, 6, 4)", 1);
+    }
+
+    private static void anew() {
+        PalletNets y = Checks.worn();
+        C.due("9: anew()", y.anew(), 3);
+        C.due("9: places", y.told(4), 0);
+        C.due("9: steps", y.told(5), 0);
+        C.due("9: sums()", y.sums(), 0);
+        C.due("9: stucks()", y.stucks(), 0);
+        C.renewed(y, "9: anew()", 0);
+        PalletNets x = new PalletNets();
+        C.due("9: anew() of nothing", x.anew(), 0);
+        C.due("9: is a change all the same", x.told(8), 1);
+        C.due("9: the next place", x.place(2), 0);
+        C.due("9: its tokens", x.of(0, 1), 2);
+        Checks.text(x, "p1");
+        x.anew();
+        C.due("9: the text stays", x.told(3), 2);
+    }
+
+    private static void of() {
+        PalletNets w = Checks.worn();
+        int[][] due = {{3, 2, 0}, {2, 1, 1}, {0, 1, 0}};
+        for (int p = 0; p < 3; p++) {
+            for (int what = 0; what <= 2; what++) {
+                C.due("10: of(" + p + ", " + what + ")", w.of(p, what), due[p][what]);
+            }
+        }
+        // from (3, 1, 0) the guard for places 0 and 1 stops the step at (0, 1, 3)
+        C.due("10: of(0, 3)", w.of(0, 3), 3);
+        C.due("10: of(1, 3), of the starts, not of home", w.of(1, 3), 2);
+        C.due("10: of(0, 4)", w.of(0, 4), 3);
+        C.due("10: of(0, 5)", w.of(0, 5), 0);
+        C.due("10: of(1, 4)", w.of(1, 4), 1);
+        C.due("10: of(1, 5)", w.of(1, 5), 1);
+        C.due("10: of(2, 4)", w.of(2, 4), 3);
+        C.due("10: of(2, 5)", w.of(2, 5), 0);
+        C.refuses(w, BAD, "10: of(3, 0)", () -> w.of(3, 0));
+        C.refuses(w, BAD, "10: of(-1, 0)", () -> w.of(-1, 0));
+        C.refuses(w, BAD, "10: of(0, 6)", () -> w.of(0, 6));
+        C.refuses(w, BAD, "10: of(0, -1)", () -> w.of(0, -1));
+        // two of place 0 make one of place 1; place 2 only grows
+        PalletNets x = Checks.net("p4;p1;p0;t0 0 0>1;t0>2;");
+        C.due("10: of(0, 3)", x.of(0, 3), 6);
+        C.due("10: of(1, 3) is rounded down", Checks.net("p5;p1;t0 0 0>1;").of(1, 3), 3);
+        C.none(x, "10: of(2, 3)", () -> x.of(2, 3));
+        C.due("10: of(2, 4)", x.of(2, 4), 15);
+        // place 0 is in two invariants: with place 1 (sum 9) and with place 2 (sum 4)
+        PalletNets y = Checks.net("p3;p6;p1;t0 0>1 2;t0 1 2>0;");
+        C.due("10: of(0, 3), the smaller of two", y.of(0, 3), 4);
+        C.due("10: of(1, 3)", y.of(1, 3), 9);
+        C.due("10: of(2, 3)", y.of(2, 3), 4);
+    }
+
+    private static void arcOf() {
+        PalletNets x = Checks.net("p1;p1;t1 0 0>1;");
+        C.due("11: arcOf(0, 0, 0)", x.arcOf(0, 0, 0), 2);
+        C.due("11: arcOf(0, 0, 1)", x.arcOf(0, 0, 1), 0);
+        C.due("11: arcOf(0, 1, 0)", x.arcOf(0, 1, 0), 0);
+        C.due("11: arcOf(0, 1, 1)", x.arcOf(0, 1, 1), 1);
+        C.refuses(x, BAD, "11: arcOf(1, 0, 0)", () -> x.arcOf(1, 0, 0));
+        C.refuses(x, BAD, "11: arcOf(-1, 0, 0)", () -> x.arcOf(-1, 0, 0));
+        C.refuses(x, BAD, "11: arcOf(0, 2, 0)", () -> x.arcOf(0, 2, 0));
+        C.refuses(x, BAD, "11: arcOf(0, -1, 0)", () -> x.arcOf(0, -1, 0));
+        C.refuses(x, BAD, "11: arcOf(0, 0, 2)", () -> x.arcOf(0, 0, 2));
+        C.refuses(x, BAD, "11: arcOf(0, 0, -1)", () -> x.arcOf(0, 0, -1));
+    }
+
+    private static void stepOf() {
+        PalletNets x = Checks.net("p1;p1;p1;t7 0 0 1>1 1 2 2 0;t0>;");
+        C.due("12: stepOf(0, 0)", x.stepOf(0, 0), 7);
+        C.due("12: stepOf(0, 1)", x.stepOf(0, 1), 3);
+        C.due("12: stepOf(0, 2)", x.stepOf(0, 2), 5);
+        C.due("12: stepOf(1, 0)", x.stepOf(1, 0), 0);
+        C.refuses(x, BAD, "12: stepOf(2, 0)", () -> x.stepOf(2, 0));
+        C.refuses(x, BAD, "12: stepOf(-1, 0)", () -> x.stepOf(-1, 0));
+        C.refuses(x, BAD, "12: stepOf(0, 3)", () -> x.stepOf(0, 3));
+        C.refuses(x, BAD, "12: stepOf(0, -1)", () -> x.stepOf(0, -1));
+    }
+}

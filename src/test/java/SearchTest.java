@@ -1,0 +1,150 @@
+/** Promises 30 to 32: all that can come. */
+public final class SearchTest {
+    private static final int BAD = PalletNets.BAD;
+    private static final Checks C = new Checks("SearchTest");
+
+    private static final String RING = "p2;p0;p0;t1 0>1;t2 1>2;t3 2>0;";
+    private static final String GROWING = "p0;p0;t1>0;t1>1;";
+
+    public static void main(String[] args) {
+        ring();
+        limits();
+        home();
+        homeTies();
+        homeLimits();
+        C.end();
+    }
+
+    private static void all(String net, PalletNets x, int... due) {
+        for (int what = 0; what < due.length; what++) {
+            C.due("30: " + net + ", all(" + what + ")", x.all(what), due[what]);
+        }
+    }
+
+    private static void ring() {
+        PalletNets x = Checks.net(RING);
+        all("ring", x, 6, 1, 0, 0, 7, 2);
+        long[] tokens = {2, 17, 32, 257, 272, 512};
+        int[] steps = {0, 1, 2, 2, 3, 4};
+        int[] able = {1, 3, 2, 5, 6, 4};
+        for (int m = 0; m < 6; m++) {
+            C.due("31: found(" + m + ", 0)", x.found(m, 0), tokens[m]);
+            C.due("31: found(" + m + ", 1)", x.found(m, 1), steps[m]);
+            C.due("31: found(" + m + ", 2)", x.found(m, 2), 1);
+            C.due("31: found(" + m + ", 3)", x.found(m, 3), able[m]);
+        }
+        C.none(x, "31: found(6, 0)", () -> x.found(6, 0));
+        C.none(x, "31: found(MAX, 3)", () -> x.found(Integer.MAX_VALUE, 3));
+        C.refuses(x, BAD, "31: found(-1, 0)", () -> x.found(-1, 0));
+        C.refuses(x, BAD, "31: found(0, 4)", () -> x.found(0, 4));
+        C.refuses(x, BAD, "31: found(0, -1)", () -> x.found(0, -1));
+        C.refuses(x, BAD, "31: found(6, 4)", () -> x.found(6, 4));
+        C.refuses(x, BAD, "30: all(6)", () -> x.all(6));
+        C.refuses(x, BAD, "30: all(-1)", () -> x.all(-1));
+        x.goes(0);
+        C.due("30: from home, not from the present marking", x.found(0, 0), 2);
+        x.loses(0);
+        all("ring with one token", x, 3, 1, 0, 0, 7, 1);
+        x.returns(0);
+        x.guard(1, 1);
+        // (2,0,0), (1,1,0), (1,0,1): place 0 keeps one token
+        all("ring with a guard", x, 3, 1, 0, 0, 7, 2);
+        x.drop(0);
+        all("ring without it", x, 6, 1, 0, 0, 7, 2);
+        x.back();
+        all("ring with it again", x, 3, 1, 0, 0, 7, 2);
+        x.keeper(1);
+        all("the keeper does not matter", x, 3, 1, 0, 0, 7, 2);
+        PalletNets sink = Checks.net("p1;p0;p0;t1 0>1;t1 1>0;t1 0>2;t1 2 2>;");
+        all("sink", sink, 3, 1, 1, 1, 7, 1);
+        C.due("31: found(1, 2)", sink.found(1, 2), 1);
+        C.due("31: found(2, 2)", sink.found(2, 2), 0);
+        C.due("31: found(2, 3)", sink.found(2, 3), 0);
+        PalletNets high = Checks.net("p1;p2;p3;p4;p5;p6;p7;p8;p9;p15;");
+        C.due("31: ten places", high.found(0, 0), 0xf987654321L);
+    }
+
+    private static void limits() {
+        all("one place that grows", Checks.net("p0;t1>0;"), 16, 1, 1, 15, 1, 15);
+        PalletNets x = Checks.net(GROWING);
+        all("two places that grow", x, 200, 0, 0, 199, 3, 20);
+        C.due("31: found(199, 0) is (6, 14)", x.found(199, 0), 6 + 16 * 14);
+        C.due("31: found(199, 1)", x.found(199, 1), 20);
+        C.due("31: found(199, 2)", x.found(199, 2), 0);
+        C.due("31: found(199, 3), though both lead out", x.found(199, 3), 3);
+        C.none(x, "31: found(200, 0)", () -> x.found(200, 0));
+        C.due("10: of(0, 4)", x.of(0, 4), 15);
+        C.due("10: of(1, 4)", x.of(1, 4), 15);
+        all("just 200 markings", Checks.net("p7;p4;p4;t0 0>;t0 1>;t0 2>;"), 200, 1, 1, 199, 7, 15);
+        all("210 markings", Checks.net("p14;p13;t0 0>;t0 1>;"), 200, 0, 0, 199, 3, 27);
+        // all 256 markings of the field lead back, but not all ways do within the list
+        all("a field with ways back", Checks.net("p0;p0;t0>0;t0>1;t0 0>;t0 1>;"), 200, 0, 0, 0, 15, 20);
+    }
+
+    private static void due(String at, PalletNets x, int cost, int steps, int first) {
+        C.due("32: " + at + ", home(0)", x.home(0), cost);
+        C.due("32: " + at + ", home(1)", x.home(1), steps);
+        C.due("32: " + at + ", home(2)", x.home(2), first);
+    }
+
+    private static void home() {
+        PalletNets x = Checks.net(RING);
+        due("at home", x, 0, 0, -1);
+        x.runs(3, 0);
+        // two tokens at 1, one of them goes on: (0, 1, 1)
+        due("ring at (0, 1, 1)", x, 8, 3, 1);
+        x.keeper(1);
+        due("the keeper does not matter", x, 8, 3, 1);
+        x.keeper(0);
+        x.cost(1, 0);
+        x.cost(2, 0);
+        due("for nothing", x, 0, 3, 1);
+        C.refuses(x, BAD, "32: home(3)", () -> x.home(3));
+        C.refuses(x, BAD, "32: home(-1)", () -> x.home(-1));
+        PalletNets sink = Checks.net("p1;p0;t1 0>1;");
+        sink.goes(0);
+        due("no way home", sink, -1, -1, -1);
+        C.none(sink, "32: home(0)", () -> sink.home(0));
+        sink.loses(0);
+        due("still none", sink, -1, -1, -1);
+        PalletNets lost = Checks.net("p2;p0;t1 0>1;t5 1>0;");
+        lost.goes(0);
+        lost.loses(0);
+        due("home without its lost token", lost, 5, 1, 1);
+        PalletNets guarded = Checks.net("p2;p0;p1;t1 0>1;t5 1 2>0 2;t2 1 2>0;t1 0 0>0 0 2;g2/1;");
+        guarded.goes(0);
+        due("guards hold on the way", guarded, 5, 1, 1);
+        guarded.drop(0);
+        due("and not once they are dropped", guarded, 3, 2, 2);
+    }
+
+    private static void homeTies() {
+        // from (0, 1, 0): 4 at once by step 2, or 2 and 2 over place 2
+        PalletNets x = Checks.net("p1;p0;p0;t2 1>2;t2 2>0;t4 1>0;t0 0>1;");
+        x.goes(3);
+        due("fewest steps of the cheapest", x, 4, 1, 2);
+        x.cost(2, 5);
+        due("cheaper comes before fewer", x, 4, 2, 0);
+        x.cost(2, 3);
+        due("cheapest and fewest", x, 3, 1, 2);
+        PalletNets y = Checks.net("p1;p0;t9 1>0;t4 1>0;t4 1>0;t0 0>1;");
+        y.goes(3);
+        due("the lowest first step", y, 4, 1, 1);
+        // many steps at no cost against one at a cost of 1
+        PalletNets z = Checks.net("p1;p0;p0;p0;p0;t1 4>0;t0 1>0;t0 2>1;t0 3>2;t0 4>3;t0 0>4;");
+        z.goes(5);
+        due("four steps at no cost", z, 0, 4, 4);
+    }
+
+    private static void homeLimits() {
+        PalletNets field = Checks.net("p0;p0;t0>0;t0>1;t0 0>;t0 1>;");
+        for (int i = 0; i < 8; i++) {
+            field.goes(0);
+        }
+        due("within the list", field, 0, 8, 2);
+        for (int i = 0; i < 22; i++) {
+            field.goes(i < 7 ? 0 : 1);
+        }
+        due("home is past the 200th marking", field, -1, -1, -1);
+    }
+}
