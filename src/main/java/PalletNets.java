@@ -150,7 +150,9 @@ public final class PalletNets {
             case 0: return Marks.tokens(now.starts, p);
             case 1: return Marks.tokens(now.present, p);
             case 2: return Marks.tokens(now.lost, p);
-            case 3: return knownInvariants().bound(p, now.starts);
+            case 3:
+                analyse();
+                return invariants.bound(p, now.starts);
             case 4: return homeSearch().mostIn(1 << p);
             default: return homeSearch().leastIn(1 << p);
         }
@@ -258,21 +260,24 @@ public final class PalletNets {
     // ---- sums
 
     public int sums() {
-        return knownInvariants().count;
+        analyse();
+        return invariants.count;
     }
 
     public int sum(int k, int p) {
         if (k < 0 || !isPlace(p)) {
             return refuse(BAD);
         }
-        return k < knownInvariants().count ? invariants.weight(k, p) : NONE;
+        analyse();
+        return k < invariants.count ? invariants.weight(k, p) : NONE;
     }
 
     public int value(int k, int what) {
         if (k < 0 || !within(what, 0, 3)) {
             return refuse(BAD);
         }
-        if (k >= knownInvariants().count) {
+        analyse();
+        if (k >= invariants.count) {
             return NONE;
         }
         switch (what) {
@@ -286,14 +291,16 @@ public final class PalletNets {
     // ---- stuck sets and guards
 
     public int stucks() {
-        return knownSiphons().count;
+        analyse();
+        return siphons.count;
     }
 
     public int stuck(int k, int what) {
         if (k < 0 || !within(what, 0, 5)) {
             return refuse(BAD);
         }
-        if (k >= knownSiphons().count) {
+        analyse();
+        if (k >= siphons.count) {
             return NONE;
         }
         int set = siphons.sets[k];
@@ -311,7 +318,8 @@ public final class PalletNets {
         if (!isSet(set)) {
             return refuse(BAD);
         }
-        int siphon = knownSiphons().isSiphon(set) ? 1 : 0;
+        analyse();
+        int siphon = siphons.isSiphon(set) ? 1 : 0;
         int trap = siphons.isTrap(set) ? 2 : 0;
         return siphon + trap;
     }
@@ -333,10 +341,10 @@ public final class PalletNets {
 
     public int guards() {
         save();
-        Siphons known = knownSiphons();
+        analyse();
         int added = 0;
-        for (int k = 0; k < known.count && now.guardCount < GUARDS; k++) {
-            int set = known.sets[k];
+        for (int k = 0; k < siphons.count && now.guardCount < GUARDS; k++) {
+            int set = siphons.sets[k];
             if (!isSafe(set) && Marks.sumIn(now.homeMarking(), set) > 0 && !now.isGuarded(set)) {
                 now.addGuard(set, 1);
                 added++;
@@ -586,22 +594,13 @@ public final class PalletNets {
         return fromHome;
     }
 
+    /** Stands before every use of the invariants and siphons. */
     private void analyse() {
         if (!analysed) {
             invariants.findAll(now);
             siphons.findAll(now);
             analysed = true;
         }
-    }
-
-    private Invariants knownInvariants() {
-        analyse();
-        return invariants;
-    }
-
-    private Siphons knownSiphons() {
-        analyse();
-        return siphons;
     }
 
     private int hindrance(int t) {
@@ -649,10 +648,12 @@ public final class PalletNets {
 
         static int sumIn(long marking, int set) {
             int total = 0;
+            long rest = marking;
             for (int p = 0; p < PLACES; p++) {
                 if ((set & (1 << p)) != 0) {
-                    total += tokens(marking, p);
+                    total += (int) (rest & FIELD);
                 }
+                rest >>= WIDTH;
             }
             return total;
         }
@@ -910,24 +911,18 @@ public final class PalletNets {
             Arrays.fill(slots, NONE);
             count = 0;
             measured = false;
-            append(first, 0, slotOf(first));
+            enter(first, 0);
             boolean reached = first == goal;
             for (int i = 0; i < MARKINGS && i < count && !reached; i++) {
-                expand(net, i, without);
+                for (int t = 0; t < net.steps; t++) {
+                    boolean able = net.hindrance(markings[i], t, without) == 0;
+                    nexts[i * STEPS + t] = able ? enter(net.after(markings[i], t), depths[i] + 1) : NONE;
+                }
                 reached = goal != NONE && indexOf(goal) != NONE;
             }
         }
 
-        private void expand(State net, int i, int without) {
-            for (int t = 0; t < net.steps; t++) {
-                int next = NONE;
-                if (net.hindrance(markings[i], t, without) == 0) {
-                    next = enter(net.after(markings[i], t), depths[i] + 1);
-                }
-                nexts[i * STEPS + t] = next;
-            }
-        }
-
+        /** The index of this marking in the list, at the end of which it is put if need be; OUTSIDE if that is full. */
         private int enter(long marking, int depth) {
             int slot = slotOf(marking);
             if (slots[slot] != NONE) {
@@ -936,15 +931,11 @@ public final class PalletNets {
             if (count >= MARKINGS) {
                 return OUTSIDE;
             }
-            append(marking, depth, slot);
-            return count - 1;
-        }
-
-        private void append(long marking, int depth, int slot) {
             markings[count] = marking;
             depths[count] = depth;
             slots[slot] = count;
             count++;
+            return count - 1;
         }
 
         /** The slot of this marking, or the free one where it belongs; more than half of all slots stay free. */
@@ -1335,9 +1326,9 @@ public final class PalletNets {
             at++;
             skipSpaces();
             int first = at;
-            int v = readDigit(0);
+            int v = readDigit(0, 9);
             if (isDigit(next())) {
-                v = 10 * v + readDigit(0);
+                v = 10 * v + readDigit(0, 9);
             }
             if (v > TOKENS || isDigit(next())) {
                 fail(first);
@@ -1352,7 +1343,7 @@ public final class PalletNets {
         private void readStep(State net) {
             at++;
             skipSpaces();
-            int c = readDigit(0);
+            int c = readDigit(0, COST);
             long taken = readArcs(net.places);
             expect('>');
             long given = readArcs(net.places);
@@ -1367,11 +1358,11 @@ public final class PalletNets {
             int letterAt = at;
             at++;
             skipSpaces();
-            int pallets = readDigit(1);
+            int pallets = readDigit(1, PALLETS);
             int n = 0;
             skipSpaces();
             while (n < MACHINES && fault == NONE && (n == 0 || isDigit(next()))) {
-                machines[n] = readNumberOfPlace(net.places);
+                machines[n] = readDigit(0, net.places - 1);
                 n++;
                 skipSpaces();
             }
@@ -1389,15 +1380,15 @@ public final class PalletNets {
             int letterAt = at;
             at++;
             skipSpaces();
-            int set = 1 << readNumberOfPlace(net.places);
+            int set = 1 << readDigit(0, net.places - 1);
             skipSpaces();
             for (int n = 0; n < BYTES && fault == NONE && isDigit(next()); n++) {
-                set |= 1 << readNumberOfPlace(net.places);
+                set |= 1 << readDigit(0, net.places - 1);
                 skipSpaces();
             }
             expect('/');
             skipSpaces();
-            int least = readDigit(1);
+            int least = readDigit(1, LEAST);
             expect(';');
             if (Marks.sumIn(net.homeMarking(), set) < least) {
                 fail(letterAt);
@@ -1412,7 +1403,7 @@ public final class PalletNets {
             skipSpaces();
             for (int n = 0; n < BYTES && fault == NONE && isDigit(next()); n++) {
                 int digitAt = at;
-                int p = readNumberOfPlace(places);
+                int p = readDigit(0, places - 1);
                 if (Marks.tokens(arcs, p) >= ARC) {
                     fail(digitAt);
                 }
@@ -1422,20 +1413,10 @@ public final class PalletNets {
             return arcs;
         }
 
-        /** Answers 0 where it fails, which is within every range that callers use. */
-        private int readNumberOfPlace(int places) {
-            int digitAt = at;
-            int p = readDigit(0);
-            if (p >= places) {
-                fail(digitAt);
-                return 0;
-            }
-            return p;
-        }
-
-        private int readDigit(int least) {
+        /** Answers 0 where it fails, which callers can use as a place or a number without harm. */
+        private int readDigit(int least, int most) {
             int digit = next() - '0';
-            if (!within(digit, least, 9)) {
+            if (!within(digit, least, most)) {
                 fail(at);
                 return 0;
             }

@@ -204,6 +204,8 @@ public final class NetTest {
         C.refuses(x, BAD, "8: draw(0, 11, 1)", () -> x.draw(0, 11, 1));
         C.refuses(x, BAD, "8: draw(0, 1, 0)", () -> x.draw(0, 1, 0));
         C.refuses(x, BAD, "8: draw(0, 1, 9)", () -> x.draw(0, 1, 9));
+        C.due("8: draw(0, 1, 1)", x.draw(0, 1, 1), 1);
+        C.due("8: nothing is left of ten places", x.found(0, 0), x.of(0, 0));
         PalletNets y = Checks.worn();
         C.due("8: draw(5, 6, 4), keeper on", y.draw(5, 6, 4), 112);
         C.renewed(y, "8: draw(5, 6, 4)", 1);

@@ -56,6 +56,7 @@ public final class SearchTest {
         x.keeper(1);
         all("the keeper does not matter", x, 3, 1, 0, 0, 7, 2);
         PalletNets sink = Checks.net("p1;p0;p0;t1 0>1;t1 1>0;t1 0>2;t1 2 2>;");
+        C.due("31: found(2, 2), asked first", sink.found(2, 2), 0);
         all("sink", sink, 3, 1, 1, 1, 7, 1);
         C.due("31: found(1, 2)", sink.found(1, 2), 1);
         C.due("31: found(2, 2)", sink.found(2, 2), 0);

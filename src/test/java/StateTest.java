@@ -82,6 +82,13 @@ public final class StateTest {
         C.due("36: present", z.of(1, 1), 2);
         z.back();
         C.due("36: guards", z.told(6), 0);
+        PalletNets g = Checks.net("p9;p9;g0/3;");
+        g.drop(0);
+        g.guard(2, 7);
+        g.back();
+        g.back();
+        C.due("36: a guard's places", g.guardOf(0, 0), 1);
+        C.due("36: a guard's least number", g.guardOf(0, 1), 3);
     }
 
     private static void told() {

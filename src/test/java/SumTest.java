@@ -1,3 +1,5 @@
+import java.util.Random;
+
 /** Promises 20 to 22: sums. */
 public final class SumTest {
     private static final int BAD = PalletNets.BAD;
@@ -7,6 +9,7 @@ public final class SumTest {
         sums();
         weights();
         chain();
+        dense();
         value();
         C.end();
     }
@@ -50,6 +53,8 @@ public final class SumTest {
         C.refuses(x, BAD, "21: sum(0, 4)", () -> x.sum(0, 4));
         C.refuses(x, BAD, "21: sum(0, -1)", () -> x.sum(0, -1));
         C.refuses(x, BAD, "21: sum(9, 4)", () -> x.sum(9, 4));
+        due(Checks.net("p0;p0;"), 0, 1, 0);
+        due(Checks.net("p0;p0;"), 1, 0, 1);
         // 2 a = 2 b has the weights 1 and 1, not 2 and 2
         due(Checks.net("p0;p0;t0 0 0>1 1;"), 0, 1, 1);
         // place 0 pays for 1 and 2 together, or 3 for each of them
@@ -69,6 +74,41 @@ public final class SumTest {
         due(x, 0, 1, 2, 4, 8, 16, 32, 64, 128, 256);
         C.due("22: value(0, 0)", x.value(0, 0), 15 * 256);
         C.due("10: of(0, 3)", x.of(0, 3), 15 * 256);
+    }
+
+    /** Nets of ten places with few empty arcs: many invariants on the way, with large weights. */
+    private static void dense() {
+        Random random = new Random(20);
+        for (int n = 0; n < 150; n++) {
+            PalletNets x = Checks.net("p1;p1;p1;p1;p1;p1;p1;p1;p1;p1;");
+            Model model = new Model();
+            for (int p = 0; p < 10; p++) {
+                model.place(1);
+            }
+            int gaps = random.nextInt(8);
+            for (int t = 0; t <= n % 8; t++) {
+                x.step(0);
+                model.step(0);
+                for (int p = 0; p < 10; p++) {
+                    int way = random.nextInt(2);
+                    int w = random.nextInt(10) < gaps ? 0 : 1 + random.nextInt(2);
+                    x.arc(t, p, way, w);
+                    model.arc(t, p, way, w);
+                }
+            }
+            C.due("20: sums() of a dense net", x.sums(), model.sums());
+            C.due("23: stucks() of a dense net", x.stucks(), model.stucks());
+            for (int k = 0; k < model.sums(); k++) {
+                C.due("22: value() of a dense net", x.value(k, 3), model.value(k, 3));
+                for (int p = 0; p < 10; p++) {
+                    C.due("21: sum() of a dense net", x.sum(k, p), model.sum(k, p));
+                }
+            }
+            for (int k = 0; k < model.stucks(); k++) {
+                C.due("24: stuck() of a dense net", x.stuck(k, 0), model.stuck(k, 0));
+                C.due("24: stuck() of a dense net", x.stuck(k, 3), model.stuck(k, 3));
+            }
+        }
     }
 
     private static void value() {

@@ -67,6 +67,8 @@ public final class TextTest {
         C.due("34: is no change", x.told(8), 0);
         C.due("34: the next byte is the first", x.type('x'), 1);
         C.due("34: nothing is left of it", x.reads(), -10);
+        Checks.text(x, "p1;p2;");
+        C.due("34: a shorter text ends where it ends", Checks.read(x, "p1"), -12);
     }
 
     private static void right() {
@@ -109,6 +111,8 @@ public final class TextTest {
         error("p;", 1);
         error("px", 1);
         error("p-1;", 1);
+        error("p:;", 1);
+        error("p/;", 1);
         error("p1x;", 2);
         error("p 1x", 3);
         error("p1;;", 3);
@@ -132,6 +136,8 @@ public final class TextTest {
         error("t1>>", 3);
         error("t1>x", 3);
         error("t1/;", 2);
+        error("t:>;", 1);
+        error("t/>;", 1);
         error("t1 0>;", 3);
         error("t1>0;", 3);
         error("t12>;", 2);
@@ -149,6 +155,7 @@ public final class TextTest {
         error("l1 0;", 3);
         error("p1;l0 0;", 4);
         error("p1;lx", 4);
+        error("p1;l:0;", 4);
         error("p1;l;", 4);
         error("p1;l1", 5);
         error("p1;l1;", 5);
@@ -186,6 +193,7 @@ public final class TextTest {
         error("p9;g0/1", 7);
         error("p9;g0/10;", 7);
         error("p9;g0/x", 6);
+        error("p9;g0/:;", 6);
         error("p2;g0/3;", 3);
         error("p2; g 0 0 / 3 ;", 4);
         error("p2;g0/3", 7);
