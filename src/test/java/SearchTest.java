@@ -80,6 +80,12 @@ public final class SearchTest {
         all("210 markings", Checks.net("p14;p13;t0 0>;t0 1>;"), 200, 0, 0, 199, 3, 27);
         // all 256 markings of the field lead back, but not all ways do within the list
         all("a field with ways back", Checks.net("p0;p0;t0>0;t0>1;t0 0>;t0 1>;"), 200, 0, 0, 0, 15, 20);
+        PalletNets drawn = new PalletNets();
+        Model model = new Model();
+        C.due("8: draw(37185, 3, 3)", drawn.draw(37185, 3, 3), 200);
+        model.draw(37185, 3, 3);
+        C.due("30: step 0 alone leads out of this list, all(1)", drawn.all(1), 0);
+        C.due("30: as in the model", drawn.all(1), model.all(1));
     }
 
     private static void due(String at, PalletNets x, int cost, int steps, int first) {
