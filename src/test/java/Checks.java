@@ -1,10 +1,14 @@
 import java.util.function.LongSupplier;
+import java.util.function.Supplier;
+import java.util.function.ToLongFunction;
 
 /** Counts the answers that are not as due, and ends a test with exit code 1 if there was one. */
 final class Checks {
     private final String name;
     private int checked = 0;
     private int wrong = 0;
+    private String saying = "";
+    private int checkedBefore = -1;
 
     Checks(String name) {
         this.name = name;
@@ -13,11 +17,27 @@ final class Checks {
     void due(String what, long got, long want) {
         checked++;
         if (got != want) {
-            wrong++;
-            if (wrong <= 20) {
-                System.out.println(name + ": " + what + " answered " + got + ", due is " + want);
-            }
+            complain(what + " answered " + got + ", due is " + want + saying);
         }
+    }
+
+    private void complain(String what) {
+        wrong++;
+        if (wrong <= 20) {
+            System.out.println(name + ": " + what);
+        }
+    }
+
+    /**
+     * The checks up to the next sentence hold this one, of the section W (What it is), D (Description) or of a promise's
+     * number; DocumentTest sees to it that no sentence of the document is left out.
+     */
+    void says(String section, String sentence) {
+        if (checked == checkedBefore) {
+            complain("nothing is checked" + saying);
+        }
+        saying = ", as " + section + " says: " + sentence;
+        checkedBefore = checked;
     }
 
     void isTrue(String what, boolean holds) {
@@ -29,6 +49,7 @@ final class Checks {
     }
 
     void end() {
+        says("", "");
         System.out.println(name + ": " + checked + " checked, " + wrong + " wrong");
         if (wrong != 0) {
             System.exit(1);
@@ -37,13 +58,43 @@ final class Checks {
 
     /** The call answers this code, is counted once for it, and leaves all else as it was. */
     void refuses(PalletNets x, int code, String what, LongSupplier call) {
-        long[] counts = {x.told(0), x.told(1), x.told(2)};
-        long before = state(x);
+        int counted = -2 - code;
+        long count = x.told(counted);
+        long behind = 9 + 3 * x.told(4) + 3 * x.told(5) + 2 * x.told(6) + 6 - 1 - counted;
+        long before = x.digest();
         due(what, call.getAsLong(), code);
-        counts[-2 - code]++;
-        due(what + " changes nothing: the state", state(x), before);
-        for (int i = 0; i < 3; i++) {
-            due(what + " is counted: told(" + i + ")", x.told(i), counts[i]);
+        due(what + " is counted: told(" + counted + ")", x.told(counted), count + 1);
+        // one of the numbers in the hash is greater by 1, with so many numbers behind it
+        due(what + " changes nothing else: digest()", x.digest(), before + power(31, behind));
+    }
+
+    private static long power(long base, long exponent) {
+        long product = 1;
+        for (long n = 0; n < exponent; n++) {
+            product *= base;
+        }
+        return product;
+    }
+
+    /** What refuses() sees, and all that can be asked for is as on a twin without the call, now and after each back(). */
+    void refusesAll(Supplier<PalletNets> made, int code, String what, ToLongFunction<PalletNets> call) {
+        PalletNets x = made.get();
+        refuses(x, code, what, () -> call.applyAsLong(x));
+        changesNothing(made, what, call);
+    }
+
+    /** All that can be asked for, but for the counts, is as on a twin without the call, now and after each back(). */
+    void changesNothing(Supplier<PalletNets> made, String what, ToLongFunction<PalletNets> call) {
+        int kept = made.get().told(8);
+        for (int backs = 0; backs <= kept; backs++) {
+            PalletNets x = made.get();
+            PalletNets twin = made.get();
+            call.applyAsLong(x);
+            for (int n = 1; n <= backs; n++) {
+                due(what + " keeps and loses no state: back()", x.back(), kept - n);
+                twin.back();
+            }
+            due(what + " changes nothing: the state after " + backs + " back()", state(x), state(twin));
         }
     }
 
@@ -56,8 +107,13 @@ final class Checks {
 
     /** A hash of all that can be asked for, but for the counts. */
     static long state(PalletNets x) {
+        return 37 * (37 * content(x) + x.told(3)) + x.told(8);
+    }
+
+    /** A hash of what back() restores: net, guards, lost tokens, present marking, keeper. */
+    static long content(PalletNets x) {
         long h = 1;
-        for (int what = 3; what <= 8; what++) {
+        for (int what = 4; what <= 7; what++) {
             h = 37 * h + x.told(what);
         }
         for (int p = 0; p < x.told(4); p++) {

@@ -7,6 +7,8 @@ public final class SearchTest {
     private static final String GROWING = "p0;p0;t1>0;t1>1;";
 
     public static void main(String[] args) {
+        allOf();
+        foundOf();
         ring();
         limits();
         home();
@@ -18,6 +20,87 @@ public final class SearchTest {
     private static void all(String net, PalletNets x, int... due) {
         for (int what = 0; what < due.length; what++) {
             C.due("30: " + net + ", all(" + what + ")", x.all(what), due[what]);
+        }
+    }
+
+    private static void allOf() {
+        C.says("30", "Returns a property of the search from the home marking.");
+        PalletNets moved = Checks.net(RING);
+        moved.runs(8, 0);
+        moved.loses(0);
+        C.due("30: from home, not from the present marking", moved.found(0, 0), 1);
+        C.says("30", "Returns the property; BAD.");
+        C.refuses(moved, BAD, "30: all(6)", () -> moved.all(6));
+        C.refuses(moved, BAD, "30: all(-1)", () -> moved.all(-1));
+        C.says("30", "0: the number of markings;");
+        C.due("30: home alone", Checks.net("p1;").all(0), 1);
+        C.due("30: home and another", Checks.net("p1;t0 0>;").all(0), 2);
+        C.due("30: as many as there can be", Checks.net(GROWING).all(0), 200);
+        C.says("30", "1: 1 if it is complete (each step that can go in one of the markings leads to one of them), else 0;");
+        C.due("30: no step", Checks.net("p1;").all(1), 1);
+        C.due("30: a step that leads to the same marking", Checks.net("p1;t0 0>0;").all(1), 1);
+        C.due("30: all steps lead to markings of the list", Checks.net(RING).all(1), 1);
+        C.due("30: a step leads out of the list", Checks.net(GROWING).all(1), 0);
+        C.due("30: just 200 markings", Checks.net("p7;p4;p4;t0 0>;t0 1>;t0 2>;").all(1), 1);
+        C.says("30", "2: the number of markings in which no step can go;");
+        C.due("30: no step at all", Checks.net("p1;").all(2), 1);
+        C.due("30: none where a step goes for ever", Checks.net(RING).all(2), 0);
+        C.due("30: the last alone", Checks.net("p3;t0 0>;").all(2), 1);
+        C.due("30: home alone, by its guard", Checks.net("p3;t0 0>;g0/3;").all(2), 1);
+        C.due("30: two ends", Checks.net("p1;p0;p0;t0 0>1;t0 0>2;").all(2), 2);
+        C.says("30", "3: the number of markings from which the home marking cannot be reached by steps that can go, over markings of "
+            + "this search (the home marking counts as reached from itself);");
+        C.due("30: home alone", Checks.net("p1;").all(3), 0);
+        C.due("30: all but home", Checks.net("p3;t0 0>;").all(3), 3);
+        C.due("30: none in a ring", Checks.net(RING).all(3), 0);
+        C.due("30: ways that only lead over markings past the 200th",
+            Checks.net("p10;p0;p0;p0;t0 0>1;t0 1>2;t0 2>3;t0 3>0;").all(3), 2);
+        C.says("30", "4: the set of the steps that can go in at least one of the markings;");
+        C.due("30: no step", Checks.net("p1;").all(4), 0);
+        C.due("30: the last of eight", Checks.net("p0;" + "t0 0>;".repeat(7) + "t0>;").all(4), 128);
+        C.due("30: all of eight", Checks.net("p1;" + "t0 0>;".repeat(8)).all(4), 255);
+        C.due("30: one that can go only later", Checks.net("p1;p0;t0 1>;t0 0>1;").all(4), 3);
+        C.due("30: one that leads out of the list", Checks.net("p14;p13;t0 0>;t0 1>;").all(4), 3);
+        C.says("30", "5: the greatest number of tokens of all places together");
+        C.due("30: no place", new PalletNets().all(5), 0);
+        C.due("30: home has the most", Checks.net("p3;t0 0>;").all(5), 3);
+        C.due("30: a later one has", Checks.net("p1;p0;t0 0>1 1;t0 1>;").all(5), 2);
+        C.due("30: ten places", Checks.net("p15;".repeat(10)).all(5), 150);
+    }
+
+    private static void foundOf() {
+        PalletNets x = Checks.net("p2;p0;p1;t0 0>1;t0 1>0;t0 1 2>1;");
+        C.says("31", "Returns a property of a marking of the search from the home marking.");
+        x.goes(0);
+        C.due("31: the first is home", x.found(0, 0), 0x102);
+        C.says("31", "Returns the property; NONE if there is no marking with this index; BAD, also if m is negative.");
+        C.due("31: the last", x.found(5, 0), 0x002);
+        C.none(x, "31: found(6, 0)", () -> x.found(6, 0));
+        C.none(x, "31: found(MAX, 3)", () -> x.found(Integer.MAX_VALUE, 3));
+        C.refuses(x, BAD, "31: found(-1, 0)", () -> x.found(-1, 0));
+        C.refuses(x, BAD, "31: found(MIN, 0)", () -> x.found(Integer.MIN_VALUE, 0));
+        C.refuses(x, BAD, "31: found(0, 4)", () -> x.found(0, 4));
+        C.refuses(x, BAD, "31: found(0, -1)", () -> x.found(0, -1));
+        C.refuses(x, BAD, "31: found(6, 4)", () -> x.found(6, 4));
+        // in order: 102, 111, 120, 011, 020, 002; the token of place 2 does not come back
+        long[][] due = {{0x102, 0x111, 0x120, 0x011, 0x020, 0x002}, {0, 1, 2, 2, 3, 3}, {1, 1, 1, 0, 0, 0}, {1, 7, 6, 3, 2, 1}};
+        C.says("31", "0: its tokens, as the sum over all places p of (tokens of place p) * 16^p;");
+        found(x, 0, due[0]);
+        C.due("31: ten places of 15", Checks.net("p15;".repeat(10)).found(0, 0), 1099511627775L);
+        C.due("31: the tenth alone", Checks.net("p0;".repeat(9) + "p1;").found(0, 0), 68719476736L);
+        C.says("31", "1: the smallest number of steps by which the search reaches it;");
+        found(x, 1, due[1]);
+        C.due("31: at once, though over another marking too", Checks.net("p1;p0;p0;t0 0>1;t0 1>2;t0 0>2;").found(2, 1), 1);
+        C.says("31", "2: 1 if the home marking can be reached from it, as described at all(), else 0;");
+        found(x, 2, due[2]);
+        C.says("31", "3: the set of the steps that can go in it");
+        found(x, 3, due[3]);
+        C.due("31: one that leads out of the list", Checks.net(GROWING).found(199, 3), 3);
+    }
+
+    private static void found(PalletNets x, int what, long... due) {
+        for (int m = 0; m < due.length; m++) {
+            C.due("31: found(" + m + ", " + what + ")", x.found(m, what), due[m]);
         }
     }
 
@@ -95,6 +178,9 @@ public final class SearchTest {
     }
 
     private static void home() {
+        C.says("32", "Finds the cheapest way home: of all sequences of steps that can go one after the other, from the present marking "
+            + "to the home marking, over markings of the search from the present marking (the keeper does not matter), those with the "
+            + "smallest sum of costs, of these those with the fewest steps.");
         PalletNets x = Checks.net(RING);
         due("at home", x, 0, 0, -1);
         x.runs(3, 0);
@@ -126,6 +212,8 @@ public final class SearchTest {
     }
 
     private static void homeTies() {
+        C.says("32", "0: this sum; 1: the number of steps; 2: the lowest number of a first step of one of these sequences, NONE if the "
+            + "present marking is the home marking");
         // from (0, 1, 0): 4 at once by step 2, or 2 and 2 over place 2
         PalletNets x = Checks.net("p1;p0;p0;t2 1>2;t2 2>0;t4 1>0;t0 0>1;");
         x.goes(3);
@@ -134,6 +222,8 @@ public final class SearchTest {
         due("cheaper comes before fewer", x, 4, 2, 0);
         x.cost(2, 3);
         due("cheapest and fewest", x, 3, 1, 2);
+        PalletNets atHome = Checks.net("p1;t0 0>0;");
+        due("at home, though a step leads from there to there", atHome, 0, 0, -1);
         PalletNets y = Checks.net("p1;p0;t9 1>0;t4 1>0;t4 1>0;t0 0>1;");
         y.goes(3);
         due("the lowest first step", y, 4, 1, 1);
@@ -144,6 +234,7 @@ public final class SearchTest {
     }
 
     private static void homeLimits() {
+        C.says("32", "Returns that number; NONE if there is no such sequence; BAD.");
         PalletNets field = Checks.net("p0;p0;t0>0;t0>1;t0 0>;t0 1>;");
         for (int i = 0; i < 8; i++) {
             field.goes(0);
@@ -153,5 +244,24 @@ public final class SearchTest {
             field.goes(i < 7 ? 0 : 1);
         }
         due("home is past the 200th marking", field, -1, -1, -1);
+        // home (0, 0) is the 200th marking from (3, 12), and would be the 201st from (3, 13)
+        PalletNets near = Checks.net("p0;p0;t0 0>;t0 1>;t0>0;t0>1;");
+        for (int i = 0; i < 15; i++) {
+            near.goes(i < 3 ? 2 : 3);
+        }
+        due("home is the 200th marking", near, 0, 15, 0);
+        near.goes(3);
+        due("home would be the 201st marking", near, -1, -1, -1);
+        for (int what = 0; what <= 2; what++) {
+            int w = what;
+            C.none(near, "32: home(" + w + ")", () -> near.home(w));
+        }
+        C.refuses(near, BAD, "32: home(3)", () -> near.home(3));
+        C.refuses(near, BAD, "32: home(-1)", () -> near.home(-1));
+        // nine for each of ten steps, and no shorter way
+        PalletNets dear = Checks.net("p10;p0;t0 0>1;t9 1>0;");
+        dear.runs(8, 0);
+        dear.runs(2, 0);
+        due("the dearest steps", dear, 90, 10, 1);
     }
 }

@@ -1,3 +1,5 @@
+import java.math.BigInteger;
+
 /** Promises 36 to 38: back, told, digest; and how refusals are counted. */
 public final class StateTest {
     private static final int BAD = PalletNets.BAD, NO = PalletNets.NO;
@@ -13,6 +15,7 @@ public final class StateTest {
     }
 
     private static void back() {
+        C.says("36", "Returns the number of states that are still kept; NO if there is none.");
         PalletNets x = new PalletNets();
         C.refuses(x, NO, "36: back() on a new object", x::back);
         for (int p = 0; p < 7; p++) {
@@ -38,6 +41,7 @@ public final class StateTest {
     }
 
     private static void backRestoresAll() {
+        C.says("36", "Restores the latest state that is kept, which is not kept any more then.");
         PalletNets x = Checks.worn();
         long worn = Checks.state(x);
         int sums = x.sums();
@@ -97,10 +101,20 @@ public final class StateTest {
         x.place(16);
         x.place(17);
         x.loses(2);
+        C.says("37", "Returns a number.");
+        C.due("37: told(4)", x.told(4), 3);
+        C.says("37", "0, 1, 2: how often BAD, NO, FULL has been returned; 3: bytes of the text; 4: places; 5: steps; 6: guards; 7: 1 if the "
+            + "keeper is on, else 0; 8: states that are kept");
         int[] due = {2, 1, 0, 1, 3, 1, 1, 1, 4};
         for (int what = 0; what <= 8; what++) {
             C.due("37: told(" + what + ")", x.told(what), due[what]);
         }
+        int[] most = {1, 1, 1, 120, 10, 8, 5, 1, 5};
+        PalletNets full = full();
+        for (int what = 0; what <= 8; what++) {
+            C.due("37: as much as there can be, told(" + what + ")", full.told(what), most[what]);
+        }
+        C.says("37", "Returns the number; BAD.");
         C.refuses(x, BAD, "37: told(9)", () -> x.told(9));
         C.refuses(x, BAD, "37: told(-1)", () -> x.told(-1));
         C.due("37: told(0)", x.told(0), 4);
@@ -136,9 +150,23 @@ public final class StateTest {
     }
 
     private static void digest() {
+        C.says("38", "Returns a hash of the state. It starts with h = 2221; for each of the following numbers v, in order, h becomes 31 * h "
+            + "+ v (long arithmetic that wraps):");
         PalletNets x = new PalletNets();
         C.due("38: a new object", x.digest(), hash(0, 0, 0, 0, 0, 0, 0, 0, 0, 1, 1, 1, 0, 0, 0));
-        C.due("38: digest() is no change and counts nothing", x.digest(), hash(0, 0, 0, 0, 0, 0, 0, 0, 0, 1, 1, 1, 0, 0, 0));
+        // without wrapping it would be 52116346883887047480003634
+        BigInteger whole = new BigInteger("52116346883887047480003634");
+        C.due("38: a new object, whose hash wraps below 0", x.digest(), -3215711610160722894L);
+        C.due("38: as the whole number wraps", x.digest(), whole.longValue());
+        C.due("38: digest() is no change and counts nothing", x.digest(), -3215711610160722894L);
+        PalletNets place = new PalletNets();
+        place.place(5);
+        C.due("38: a place, whose hash wraps and is above 0", place.digest(), 648228659720143402L);
+        PalletNets step = new PalletNets();
+        step.step(7);
+        C.due("38: a step", step.digest(), -4534909212007823308L);
+        C.says("38", "told() for 0 to 8; for each place of() for 0 to 2; for each step stepOf() for 0 to 2; for each guard guardOf() for 0 "
+            + "and 1; all() for 0 to 3; sums(); stucks().");
         PalletNets w = Checks.worn();
         w.type('p');
         w.place(16);
@@ -150,5 +178,57 @@ public final class StateTest {
             1, 1, 1,
             3, 1,
             4, 1, 1, 3, 2, 2));
+        C.due("38: digest()", w.digest(), -9118932368578481896L);
+        numberByNumber(w);
+        numberByNumber(Checks.net("p3;p9;p0;t5 0>1;t0 1 1>0 2;g01/4;g1/9;"));
+        C.says("38", "Returns h.");
+        C.due("38: as much as there can be", full().digest(), 9071658925862611769L);
+        numberByNumber(full());
+    }
+
+    /** The same hash, from what the queries answer. */
+    private static void numberByNumber(PalletNets x) {
+        long h = 2221;
+        for (int what = 0; what <= 8; what++) {
+            h = 31 * h + x.told(what);
+        }
+        int places = x.told(4);
+        int steps = x.told(5);
+        int guards = x.told(6);
+        for (int p = 0; p < places; p++) {
+            h = 31 * (31 * (31 * h + x.of(p, 0)) + x.of(p, 1)) + x.of(p, 2);
+        }
+        for (int t = 0; t < steps; t++) {
+            h = 31 * (31 * (31 * h + x.stepOf(t, 0)) + x.stepOf(t, 1)) + x.stepOf(t, 2);
+        }
+        for (int g = 0; g < guards; g++) {
+            h = 31 * (31 * h + x.guardOf(g, 0)) + x.guardOf(g, 1);
+        }
+        for (int what = 0; what <= 3; what++) {
+            h = 31 * h + x.all(what);
+        }
+        C.due("38: digest(), number by number", x.digest(), 31 * (31 * h + x.sums()) + x.stucks());
+    }
+
+    /** Ten places of 15 tokens, eight steps, five guards, 120 bytes, the keeper on, and one refusal of each kind. */
+    private static PalletNets full() {
+        PalletNets x = new PalletNets();
+        for (int p = 0; p < 10; p++) {
+            x.place(15);
+        }
+        for (int t = 0; t < 8; t++) {
+            x.step(9);
+        }
+        for (int g = 0; g < 5; g++) {
+            x.guard(1023, 9);
+        }
+        for (int n = 0; n < 120; n++) {
+            x.type(' ');
+        }
+        x.keeper(1);
+        x.place(16);
+        x.returns(0);
+        x.place(15);
+        return x;
     }
 }

@@ -15,10 +15,12 @@ public final class SumTest {
     }
 
     private static void sums() {
+        C.says("20", "Counts the minimal invariants.");
         C.due("20: no places", new PalletNets().sums(), 0);
         C.due("20: no steps", Checks.net("p0;p0;p0;").sums(), 3);
         C.due("20: a step without effect", Checks.net("p0;p0;t0 0>0;").sums(), 2);
         C.due("20: a source", Checks.net("p0;t0>0;").sums(), 0);
+        C.says("20", "Returns their number.");
         C.due("20: a ring", Checks.net("p2;p0;p0;t1 0>1;t2 1>2;t3 2>0;").sums(), 1);
         C.due("20: one step of two and two", Checks.net("p0;p0;p0;p0;t0 0 1>2 3;").sums(), 4);
         C.due("20: a step that can never go counts too", Checks.net("p0;p0;t0 0 0>;").sums(), 1);
@@ -45,8 +47,10 @@ public final class SumTest {
     private static void weights() {
         PalletNets x = Checks.net("p3;p1;p4;p1;t0 0 0>3;t0 1>2;");
         C.due("20: sums()", x.sums(), 2);
+        C.says("21", "Returns a weight of a minimal invariant.");
         due(x, 0, 0, 1, 1, 0);
         due(x, 1, 1, 0, 0, 2);
+        C.says("21", "Returns the weight; NONE if there is no invariant with this number; BAD, also if k is negative.");
         C.none(x, "21: sum(2, 0)", () -> x.sum(2, 0));
         C.none(x, "21: sum(MAX, 0)", () -> x.sum(Integer.MAX_VALUE, 0));
         C.refuses(x, BAD, "21: sum(-1, 0)", () -> x.sum(-1, 0));
@@ -117,7 +121,10 @@ public final class SumTest {
         x.loses(2);
         x.goes(0);
         // starts 3 1 4 1, home 2 1 3 1, present 0 1 3 2
+        C.says("22", "Returns a property of a minimal invariant.");
         C.due("22: value(0, 0)", x.value(0, 0), 5);
+        C.says("22", "0, 1, 2: the weighted sum of the starts, of the tokens of the present marking, of those of the "
+            + "home marking; 3: its support");
         C.due("22: value(0, 1)", x.value(0, 1), 4);
         C.due("22: value(0, 2)", x.value(0, 2), 4);
         C.due("22: value(0, 3)", x.value(0, 3), 6);
@@ -138,6 +145,7 @@ public final class SumTest {
         C.due("22: of the starts", z.value(0, 0), 3);
         C.due("22: of the present marking", z.value(0, 1), 2);
         C.due("22: of home", z.value(0, 2), 2);
+        C.says("22", "Returns the property; NONE if there is no invariant with this number; BAD, also if k is negative.");
         C.none(x, "22: value(2, 0)", () -> x.value(2, 0));
         C.refuses(x, BAD, "22: value(-1, 0)", () -> x.value(-1, 0));
         C.refuses(x, BAD, "22: value(0, 4)", () -> x.value(0, 4));

@@ -42,9 +42,11 @@ public final class TextTest {
     }
 
     private static void type() {
+        C.says("33", "Appends a byte to the text.");
         PalletNets x = new PalletNets();
         C.due("33: type(0)", x.type(0), 1);
         C.due("33: type(127)", x.type(127), 2);
+        C.says("33", "Returns the number of bytes of the text then; BAD; FULL if the text has 120 bytes.");
         C.refuses(x, BAD, "33: type(128)", () -> x.type(128));
         C.refuses(x, BAD, "33: type(-1)", () -> x.type(-1));
         for (int n = 3; n <= 120; n++) {
@@ -57,6 +59,7 @@ public final class TextTest {
     }
 
     private static void clear() {
+        C.says("34", "Returns how many bytes it had.");
         PalletNets x = new PalletNets();
         C.due("34: clear() of nothing", x.clear(), 0);
         x.type('p');
@@ -65,6 +68,7 @@ public final class TextTest {
         C.due("34: told(3)", x.told(3), 0);
         C.due("34: clear() again", x.clear(), 0);
         C.due("34: is no change", x.told(8), 0);
+        C.says("34", "Empties the text.");
         C.due("34: the next byte is the first", x.type('x'), 1);
         C.due("34: nothing is left of it", x.reads(), -10);
         Checks.text(x, "p1;p2;");
@@ -72,6 +76,7 @@ public final class TextTest {
     }
 
     private static void right() {
+        C.says("35", "Returns the number of orders;");
         orders("p1;", 1);
         orders("p0;", 1);
         orders("p15;", 1);
@@ -92,6 +97,7 @@ public final class TextTest {
     }
 
     private static void placeErrors() {
+        C.says("35", "-10 - p if the text has an error at position p.");
         error("", 0);
         error("   ", 3);
         error("p", 1);
@@ -230,6 +236,7 @@ public final class TextTest {
     }
 
     private static void effects() {
+        C.says("35", "Carries out the orders of the text, which stays.");
         PalletNets x = orders("p3;p12;t7 0 1 0>1 1;g01/9;", 4);
         C.due("35: start of 0", x.of(0, 0), 3);
         C.due("35: start of 1", x.of(1, 0), 12);
@@ -279,6 +286,7 @@ public final class TextTest {
     }
 
     private static void renewing() {
+        C.says("35", "This is one change, if the text has no error;");
         for (String text : new String[] {"p1;", "t1>;", "l10;"}) {
             PalletNets x = Checks.worn();
             Checks.read(x, text);
