@@ -154,12 +154,9 @@ public final class FullTest {
         error("the end of 120 bytes", " ".repeat(119) + "p", 120);
         error("the end of 120 bytes", "p1;" + " ".repeat(115) + "t1", 120);
         error("the letter at the end of 120 bytes", "p1;" + " ".repeat(112) + "g0/2;", 115);
-        Checks.text(x, "g" + "0".repeat(119));
-        C.due("the only place 119 times: the end", x.reads(), -10 - 120);
-        Checks.text(x, "g" + "0".repeat(116) + "/7;");
-        C.due("the only place 116 times", x.reads(), 1);
-        Checks.text(x, "t0>;".repeat(8) + " ".repeat(88));
-        C.due("eight steps and spaces", x.reads(), 8);
+        error("the end of 120 bytes", "p7;g" + "0".repeat(116), 120);
+        C.due("the only place 113 times", Checks.read(new PalletNets(), "p7;g" + "0".repeat(113) + "/7;"), 2);
+        C.due("eight steps and spaces", Checks.read(new PalletNets(), "t0>;".repeat(8) + " ".repeat(88)), 8);
     }
 
     private static void error(String at, String text, int position) {

@@ -131,6 +131,9 @@ public final class NetTest {
         C.due("5: start(1, 7)", x.start(1, 7), 0);
         C.due("5: of(1, 0)", x.of(1, 0), 7);
         C.due("5: of(0, 0)", x.of(0, 0), 1);
+        PalletNets moved = Checks.worn();
+        moved.start(1, 9);
+        C.due("5: the other starts stay, wherever the tokens are", moved.found(0, 0), 0x093);
         C.refuses(x, BAD, "5: start(2, 1)", () -> x.start(2, 1));
         C.refuses(x, BAD, "5: start(-1, 1)", () -> x.start(-1, 1));
         C.refuses(x, BAD, "5: start(0, 16)", () -> x.start(0, 16));
@@ -178,6 +181,12 @@ public final class NetTest {
                 C.due("7: arcOf(" + t + ", " + p + ", 1)", x.arcOf(t, p, 1), gives[t][p]);
             }
         }
+        PalletNets straight = Checks.net("p1;p2;p3;");
+        C.due("7: line(1, 1, 2)", straight.line(1, 1, 2), 3);
+        C.due("7: its first step takes from the first machine", straight.arcOf(0, 1, 0), 1);
+        C.due("7: its second step takes from the second", straight.arcOf(1, 2, 0), 1);
+        C.due("7: and gives to the first", straight.arcOf(1, 1, 1), 1);
+        C.due("7: its last step gives to the second", straight.arcOf(2, 2, 1), 1);
         C.due("7: line(1, 0, 0)", x.line(1, 0, 0), 5);
         C.due("7: one machine twice, takes", x.arcOf(4, 0, 0), 1);
         C.due("7: one machine twice, gives", x.arcOf(4, 0, 1), 1);
@@ -342,6 +351,8 @@ public final class NetTest {
         C.due("10: of(2, 4)", w.of(2, 4), 3);
         C.due("10: of(2, 5)", w.of(2, 5), 0);
         C.due("10: of(2, 4), as many as there can be", x.of(2, 4), 15);
+        C.due("10: of(0, 5) in the second marking alone", Checks.net("p1;t0 0>;").of(0, 5), 0);
+        C.due("10: of(0, 4) in the second marking alone", Checks.net("p0;p1;t0 1>0;").of(0, 4), 1);
         PalletNets gone = Checks.net("p2;p0;t0 0>1;");
         gone.runs(2, 0);
         C.due("10: of(0, 4) from home, not from the present marking", gone.of(0, 4), 2);

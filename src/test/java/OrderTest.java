@@ -147,16 +147,16 @@ public final class OrderTest {
     private static void spaces() {
         C.says("D", "Any number of spaces (code 32) can stand anywhere except within v; none are needed.");
         String none = "p15;p3;t701>10;l20;g01/9;";
-        PalletNets dense = right(none, 5);
+        long dense = Checks.content(right(none, 5));
         PalletNets loose = right(" p 15 ; p  3 ; t 7 0 1 > 1 0 ; l 2 0 ; g 0 1 / 9 ; ", 5);
-        C.due("the same net", Checks.content(loose), Checks.content(dense));
+        C.due("the same net", Checks.content(loose), dense);
         for (int at = 0; at <= none.length(); at++) {
             for (int n : new int[] {1, 40}) {
                 String text = none.substring(0, at) + " ".repeat(n) + none.substring(at);
                 if (at == 2) {
                     wrong(text, at + n);
                 } else {
-                    C.due(n + " spaces at " + at, Checks.content(right(text, 5)), Checks.content(dense));
+                    C.due(n + " spaces at " + at, Checks.content(right(text, 5)), dense);
                 }
             }
         }

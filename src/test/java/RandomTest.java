@@ -14,6 +14,11 @@ public final class RandomTest {
         8, 12, 3, 3, 12, 12, 12, 12, 1, 1, 1, 6, 8,
         5};
 
+    /** An object is used for so many calls. */
+    private static final int CALLS = 512;
+    /** Calls of a text at most: clear(), 121 bytes, of which the last is refused, and reads(). */
+    private static final int LONGEST = 123;
+
     private final Random random;
     private final PalletNets x = new PalletNets();
     private final Model model = new Model();
@@ -37,8 +42,8 @@ public final class RandomTest {
         if (random.nextInt(8) != 0) {
             text(random.nextInt(3) == 0 ? cell() : someText());
         }
-        while (calls.size() < 512) {
-            if (random.nextInt(40) == 0) {
+        while (made < CALLS) {
+            if (random.nextInt(40) == 0 && made + LONGEST <= CALLS) {
                 text(random.nextInt(3) == 0 ? cell() : someText());
             } else {
                 call(chosen());
@@ -51,11 +56,13 @@ public final class RandomTest {
         checks.due("run " + seed, 0, 0);
     }
 
+    private int made = 0;
     private String wrong = null;
     private long got;
     private long want;
 
     private void held(String call, long answer, long due) {
+        made++;
         calls.add(call + "=" + due);
         if (answer != due && wrong == null) {
             wrong = call;
@@ -162,11 +169,12 @@ public final class RandomTest {
         }
     }
 
-    /** Counts as one call of the run: the bytes are put into both. */
+    /** Told as one call of the run: the bytes are put into both. */
     private void text(String text) {
         x.clear();
         model.clear();
-        for (int i = 0; i < text.length(); i++) {
+        made++;
+        for (int i = 0; i < text.length() && i <= 120; i++) {
             held("type", x.type(text.charAt(i)), model.type(text.charAt(i)));
             if (wrong == null) calls.remove(calls.size() - 1);
         }

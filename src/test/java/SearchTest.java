@@ -41,6 +41,11 @@ public final class SearchTest {
         C.due("30: a step that leads to the same marking", Checks.net("p1;t0 0>0;").all(1), 1);
         C.due("30: all steps lead to markings of the list", Checks.net(RING).all(1), 1);
         C.due("30: a step leads out of the list", Checks.net(GROWING).all(1), 0);
+        PalletNets fewer = Checks.net("p0;p0;t0 0>;t0 1>;t0>0;t0>1;");
+        C.due("30: steps 2 and 3 lead out of the list", fewer.all(1), 0);
+        fewer.anew();
+        Checks.read(fewer, "p15;p11;t0 0>;t0 1>;");
+        C.due("30: 192 markings, and nothing is left of steps 2 and 3", fewer.all(1), 1);
         C.due("30: just 200 markings", Checks.net("p7;p4;p4;t0 0>;t0 1>;t0 2>;").all(1), 1);
         C.says("30", "2: the number of markings in which no step can go;");
         C.due("30: no step at all", Checks.net("p1;").all(2), 1);
@@ -93,6 +98,8 @@ public final class SearchTest {
         C.due("31: at once, though over another marking too", Checks.net("p1;p0;p0;t0 0>1;t0 1>2;t0 0>2;").found(2, 1), 1);
         C.says("31", "2: 1 if the home marking can be reached from it, as described at all(), else 0;");
         found(x, 2, due[2]);
+        PalletNets end = Checks.net("p1;t0 0>;");
+        found(end, 2, 1, 0);
         C.says("31", "3: the set of the steps that can go in it");
         found(x, 3, due[3]);
         C.due("31: one that leads out of the list", Checks.net(GROWING).found(199, 3), 3);
@@ -222,6 +229,15 @@ public final class SearchTest {
         due("cheaper comes before fewer", x, 4, 2, 0);
         x.cost(2, 3);
         due("cheapest and fewest", x, 3, 1, 2);
+        PalletNets free = Checks.net("p1;p0;t3 0>1;t0 1>0;");
+        free.goes(0);
+        due("one step at no cost", free, 0, 1, 1);
+        PalletNets empty = Checks.net("p1;t3 0>;t2>0;");
+        empty.goes(0);
+        due("from where no token is", empty, 2, 1, 1);
+        PalletNets over = Checks.net("p1;p0;t3 0>1;t2 1>;t5>0;");
+        over.goes(0);
+        due("over where no token is", over, 7, 2, 1);
         PalletNets atHome = Checks.net("p1;t0 0>0;");
         due("at home, though a step leads from there to there", atHome, 0, 0, -1);
         PalletNets y = Checks.net("p1;p0;t9 1>0;t4 1>0;t4 1>0;t0 0>1;");

@@ -80,6 +80,12 @@ public final class StuckTest {
         C.due("24: a held part that is smaller", part.stuck(0, 3), 2);
         C.due("24: not safe though the siphon has a token", part.stuck(0, 4), 0);
         C.says("24", "Returns the property; NONE if there is no siphon with this number; BAD, also if k is negative.");
+        PalletNets shrunk = Checks.net("p1;p1;p1;");
+        C.due("24: three siphons of one place", shrunk.stucks(), 3);
+        Checks.read(shrunk, "t0 0>1;t0 1>0;t0>2;");
+        C.due("24: one siphon of two places", shrunk.stucks(), 1);
+        C.due("24: its places", shrunk.stuck(0, 0), 3);
+        C.none(shrunk, "24: nothing is left of the others", () -> shrunk.stuck(1, 0));
         C.none(x, "24: stuck(3, 0)", () -> x.stuck(3, 0));
         C.none(x, "24: stuck(MAX, 5)", () -> x.stuck(Integer.MAX_VALUE, 5));
         C.refuses(x, BAD, "24: stuck(-1, 0)", () -> x.stuck(-1, 0));
@@ -179,6 +185,17 @@ public final class StuckTest {
         PalletNets wider = Checks.net("p1;p1;t0 0>;");
         wider.guard(3, 1);
         C.due("27: a guard for more places is none for these", wider.guards(), 1);
+        PalletNets last = Checks.net(DRAINS);
+        last.guards();
+        last.drop(4);
+        C.due("27: the guard that was dropped last is none", last.guards(), 1);
+        C.due("27: its places", last.guardOf(4, 0), 16);
+        // place 1 alone is no siphon any more once a step fills it
+        PalletNets fewer = Checks.net("p1;p1;t0 0>;t0 1>;");
+        C.due("27: two siphons", fewer.stucks(), 2);
+        Checks.read(fewer, "t0>1;");
+        C.due("27: one siphon", fewer.guards(), 1);
+        C.due("27: its places", fewer.guardOf(0, 0), 1);
         C.says("27", "This is one change.");
         PalletNets z = Checks.net(DRAINS);
         z.guards();
@@ -256,6 +273,11 @@ public final class StuckTest {
         C.due("29: a step that another guard bars too", x.guardOf(0, 3), 2);
         C.due("29: a step that another guard bars too", x.guardOf(2, 3), 2);
         C.says("29", "Returns the property; BAD.");
+        PalletNets below = Checks.net("p3;p0;t0 0>0;t0 0>;t0>0;t0>0 0;g0/3;");
+        below.loses(0);
+        below.loses(0);
+        // place 0 has one token of at least three: only fewer than these is barred
+        C.due("29: of four steps that leave too few, the one that leaves fewer than before", below.guardOf(0, 3), 2);
         C.refuses(x, BAD, "29: guardOf(3, 0)", () -> x.guardOf(3, 0));
         C.refuses(x, BAD, "29: guardOf(-1, 0)", () -> x.guardOf(-1, 0));
         C.refuses(x, BAD, "29: guardOf(0, 5)", () -> x.guardOf(0, 5));
@@ -273,5 +295,14 @@ public final class StuckTest {
         C.due("29: without the first the other is needed", x.guardOf(1, 4), 0);
         x.loses(0);
         C.due("29: home itself has too few", x.guardOf(0, 4), 0);
+        PalletNets gone = Checks.net("p2;p0;p1;t0 0>1;t0 0 0 2>0 0 1;g2/1;");
+        C.due("29: from home the token of place 2 may go", gone.guardOf(0, 4), 0);
+        gone.goes(0);
+        C.due("29: from home, not from where it may not any more", gone.guardOf(0, 4), 0);
+        PalletNets just = Checks.net("p3;t0 0 0>;g0/1;");
+        C.due("29: just its least number is enough", just.guardOf(0, 4), 1);
+        C.due("29: one less is not", Checks.net("p2;t0 0 0>;g0/1;").guardOf(0, 4), 0);
+        PalletNets second = Checks.net("p1;t0 0>;g0/1;");
+        C.due("29: too few in the second marking alone", second.guardOf(0, 4), 0);
     }
 }
